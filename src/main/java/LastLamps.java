@@ -695,7 +695,7 @@ public final class LastLamps {
             found.ways = k + 1;
         }
 
-        /** Only the first fault counts; what is read behind it is thrown away. */
+        /** Only the first fault counts; what is read behind it is not used. */
         private void blame(int kind, int place) {
             if (fault == 0) {
                 fault = kind;
@@ -1001,6 +1001,9 @@ public final class LastLamps {
         private final int[] taken = new int[STEPS];
         private final int[] lifted = new int[TIMES];
         private final int[] behind = new int[PLACES_MOST];
+        /** The ways at each place that have not fallen, and how many. */
+        private final int[] near = new int[PLACES_MOST * WAYS_MOST];
+        private final int[] nearCount = new int[PLACES_MOST];
         /** The node from which a node was seen; UNSEEN; START. */
         private final int[] from = new int[NODES];
         /** The step by which it was seen; less than 0: back along step (-1 less this). */
@@ -1023,6 +1026,7 @@ public final class LastLamps {
             for (int m = 0; m < crew.men; m++) {
                 behind[crew.manAt[m]]++;
             }
+            findNear();
             int sum = 0;
             for (int m = 0; m < crew.men; m++) {
                 int node = search();
@@ -1033,6 +1037,21 @@ public final class LastLamps {
                 sum++;
             }
             return sum;
+        }
+
+        private void findNear() {
+            Arrays.fill(nearCount, 0);
+            for (int k = 0; k < pit.ways; k++) {
+                if (!crew.fallen[k]) {
+                    addNear(pit.fact(k, WAY_A), k);
+                    addNear(pit.fact(k, WAY_B), k);
+                }
+            }
+        }
+
+        private void addNear(int p, int k) {
+            near[p * WAYS_MOST + nearCount[p]] = k;
+            nearCount[p]++;
         }
 
         /** A place and minute at which the shaft can lift one more; NONE. */
@@ -1052,10 +1071,8 @@ public final class LastLamps {
                     return node;
                 }
                 seeByWaiting(node, minute);
-                for (int k = 0; k < pit.ways; k++) {
-                    if (pit.touches(k, p) && !crew.fallen[k]) {
-                        seeByWay(k, p, minute);
-                    }
+                for (int i = 0; i < nearCount[p]; i++) {
+                    seeByWay(near[p * WAYS_MOST + i], p, minute);
                 }
             }
             return NONE;
@@ -1304,12 +1321,12 @@ public final class LastLamps {
             findLast(end, crew.slow[m], tellerLast);
             stopAt[stops] = crew.manAt[m];
             if (t <= tellerLast[crew.manAt[m]]) {
-                tryRows(this, stops, t, 0, 0, 0);
+                goOnFrom(this, stops, t, 0, 0, 0);
             }
         }
 
         /** Goes on from a stop in all rows; length: the stops of the row so far. */
-        private static void tryRows(Telling x, int stop, int minute, int set, int told, int length) {
+        private static void goOnFrom(Telling x, int stop, int minute, int set, int told, int length) {
             x.best[set] = Math.max(x.best[set], told);
             if (set == x.asked || length >= x.stops) {
                 return;
@@ -1323,7 +1340,7 @@ public final class LastLamps {
                 }
                 // From where he cannot come up at once, he cannot by other stops either.
                 if (at <= x.tellerLast[x.stopAt[next]]) {
-                    tryRows(x, next, at, more, told + x.upWhenTold(x.stopAt[next], at), length + 1);
+                    goOnFrom(x, next, at, more, told + x.upWhenTold(x.stopAt[next], at), length + 1);
                 }
             }
         }
@@ -1448,12 +1465,12 @@ public final class LastLamps {
         /** The greatest chance of all rows from p to the shaft; 0: there is no such row. */
         private int bestChance(int p, int t) {
             best = 0;
-            tryRows(this, p, t, MILLION, 1 << p, 1);
+            goOnFrom(this, p, t, MILLION, 1 << p, 1);
             return best;
         }
 
         /** Goes on from a place in all rows; seen: the row's places, length: how many. */
-        private static void tryRows(Plans x, int p, int minute, int chance, int seen, int length) {
+        private static void goOnFrom(Plans x, int p, int minute, int chance, int seen, int length) {
             if (p == x.pit.shaft) {
                 x.best = Math.max(x.best, chance);
                 return;
@@ -1473,7 +1490,7 @@ public final class LastLamps {
                 int with = both(chance, x.pit.notBad(k, through));
                 // No row gets better by going on.
                 if (with > x.best) {
-                    tryRows(x, q, through, with, seen | 1 << q, length + 1);
+                    goOnFrom(x, q, through, with, seen | 1 << q, length + 1);
                 }
             }
         }

@@ -21,6 +21,7 @@ public final class RandomTest {
         long from = args.length > 1 ? Long.parseLong(args[1]) : 0;
         for (long seed = from; seed < from + runs && wrong < 20; seed++) {
             new RandomTest(seed).run(seed);
+            for (int i = 0; i < 4; i++) new RandomTest(seed * 4 + i + 1000000).runTight(seed * 4 + i + 1000000);
         }
         if (args.length > 0) {
             for (int i = 0; i < telling.length; i++) System.out.print(i + ":" + telling[i] + " ");
@@ -97,7 +98,51 @@ public final class RandomTest {
             + maybe("bad", 0, random.nextInt(3) == 0 ? 999 : 60, 2) + ";";
     }
 
+    /** Short ways that take in few and fill soon, so that men must wait and others give way. */
+    private String tightText() {
+        int n = 3 + random.nextInt(5);
+        places = n;
+        StringBuilder s = new StringBuilder("places " + n + ";out 0 " + (1 + random.nextInt(4)) + ";");
+        int ways = n + random.nextInt(2 * n);
+        for (int k = 0; k < ways && s.length() < 370; k++) {
+            int a = random.nextInt(n), b = (a + 1 + random.nextInt(n - 1)) % n;
+            s.append("way ").append(a).append(' ').append(b).append(' ').append(1 + random.nextInt(2));
+            s.append(maybe("wide", 1, 1 + random.nextInt(2), 1)).append(maybe("fills", 1, 5, 2)).append(';');
+        }
+        return s.toString();
+    }
+
+    /** As many places and ways as there can be. */
+    private String fullText() {
+        places = 12;
+        StringBuilder s = new StringBuilder("places 12;out " + random.nextInt(12) + " 1;");
+        for (int k = 0; k < 24; k++) {
+            int a = random.nextInt(10), b = (a + 1 + random.nextInt(9)) % (k < 3 ? 12 : 10);
+            if (a == b) b = 11;
+            s.append("way " + a + " " + b + " " + (1 + random.nextInt(9)));
+            s.append(s.length() + 12 * (24 - k) < 380 ? maybe("dark", 9, 20, 2) : "").append(';');
+        }
+        while (s.length() < 400 && random.nextInt(200) > 0) s.append(' ');
+        return s.toString();
+    }
+
+    /** Tight pits, asked for the most and the cut alone. */
+    private void runTight(long seed) {
+        feedText(seed, tightText());
+        due(seed, 1, "pit", lamps.pit(), oracle.pit());
+        for (int i = 0; i < 8; i++) {
+            int p = random.nextInt(places);
+            due(seed, 6, "man", lamps.man(p, true, false), oracle.man(p, true, false));
+        }
+        for (int t = 0; t < 10; t++) {
+            due(seed, 14, "tight most " + t, lamps.most(t), oracle.most(t));
+            due(seed, 15, "tight cut " + t, lamps.cut(t), oracle.cut(t));
+            if (random.nextBoolean()) call(seed, 4);
+        }
+    }
+
     private String pitText() {
+        if (random.nextInt(8) == 0) return fullText();
         int n = random.nextInt(4) == 0 ? 2 + random.nextInt(11) : 3 + random.nextInt(6);
         places = n;
         StringBuilder s = new StringBuilder("places" + gap() + number(random, n, n) + ";");
