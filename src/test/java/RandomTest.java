@@ -21,7 +21,8 @@ public final class RandomTest {
         long from = args.length > 1 ? Long.parseLong(args[1]) : 0;
         for (long seed = from; seed < from + runs && wrong < 20; seed++) {
             new RandomTest(seed).run(seed);
-            for (int i = 0; i < 4; i++) new RandomTest(seed * 4 + i + 1000000).runTight(seed * 4 + i + 1000000);
+            // So many, because few of them need a man to give way to another by not waiting.
+            for (int i = 0; i < 8; i++) new RandomTest(seed * 8 + i + 1000000).runTight(seed * 8 + i + 1000000);
         }
         if (args.length > 0) {
             for (int i = 0; i < telling.length; i++) System.out.print(i + ":" + telling[i] + " ");
