@@ -786,11 +786,18 @@ public final class LastLamps {
             men = other.men;
             lamps = other.lamps;
             System.arraycopy(other.manAt, 0, manAt, 0, MEN_MOST);
-            System.arraycopy(other.knows, 0, knows, 0, MEN_MOST);
-            System.arraycopy(other.slow, 0, slow, 0, MEN_MOST);
             System.arraycopy(other.lampAt, 0, lampAt, 0, LAMPS_MOST);
             System.arraycopy(other.lampEnd, 0, lampEnd, 0, LAMPS_MOST);
-            System.arraycopy(other.fallen, 0, fallen, 0, WAYS_MOST);
+            copy(other.knows, knows);
+            copy(other.slow, slow);
+            copy(other.fallen, fallen);
+        }
+
+        /** By hand: the library's copies are for arrays of numbers alone here (LANGUAGE.md, 4). */
+        private static void copy(boolean[] original, boolean[] copied) {
+            for (int i = 0; i < original.length && i < copied.length; i++) {
+                copied[i] = original[i];
+            }
         }
 
         private int addMan(int p, boolean hasHeard, boolean isSlow) {
@@ -907,8 +914,8 @@ public final class LastLamps {
                 for (int k = 0; k < pit.ways; k++) {
                     int a = pit.fact(k, WAY_A);
                     int b = pit.fact(k, WAY_B);
-                    changed |= comesSooner(k, a, b);
-                    changed |= comesSooner(k, b, a);
+                    changed = comesSooner(k, a, b) || changed;
+                    changed = comesSooner(k, b, a) || changed;
                 }
             }
         }
@@ -938,8 +945,8 @@ public final class LastLamps {
                 for (int k = 0; k < pit.ways; k++) {
                     int a = pit.fact(k, WAY_A);
                     int b = pit.fact(k, WAY_B);
-                    changed |= leavesLater(k, a, b);
-                    changed |= leavesLater(k, b, a);
+                    changed = leavesLater(k, a, b) || changed;
+                    changed = leavesLater(k, b, a) || changed;
                 }
             }
         }
